@@ -696,25 +696,21 @@ public final class VoiceHeaps {
                 return;
             }
             for (int i = 0; i < NUMBERS; i++) {
-                takeNumber(sorted[i], book.numbers[row * NUMBERS + i]);
+                int[] line = sorted[i];
+                int x = book.numbers[row * NUMBERS + i];
+                if (rows > 0) {
+                    // From all places between the two middle ones the numbers are as far away together;
+                    // one of those places is the new middle's, so x alone adds what it lies outside.
+                    spread += Math.max(0, Math.max(line[(rows - 1) / 2] - x, x - line[rows / 2]));
+                }
+                int place = rows;
+                while (place > 0 && line[place - 1] > x) {
+                    line[place] = line[place - 1];
+                    place--;
+                }
+                line[place] = x;
             }
             rows++;
-        }
-
-        private void takeNumber(int[] line, int x) {
-            if (rows > 0) {
-                // From all places between the two middle ones the numbers are as far away together;
-                // one of those places is the new middle's, so x alone adds what it lies outside.
-                int low = line[(rows - 1) / 2];
-                int high = line[rows / 2];
-                spread += Math.max(0, Math.max(low - x, x - high));
-            }
-            int place = rows;
-            while (place > 0 && line[place - 1] > x) {
-                line[place] = line[place - 1];
-                place--;
-            }
-            line[place] = x;
         }
 
         void writeMiddle(int[] to, int toAt) {
@@ -756,23 +752,14 @@ public final class VoiceHeaps {
                     end++;
                 }
                 if (end > row) {
-                    cutStretch(book, gathering, price, row, end);
+                    findCosts(book, gathering, price, row, end);
+                    addPieces(book, gathering, row, end);
+                    total += cost[row];
+                    heardRows += end - row;
+                    stretches++;
                 }
                 row = end + 1;
             }
-        }
-
-        private void cutStretch(RowBook book, Gathering gathering, int price, int from, int end) {
-            findCosts(book, gathering, price, from, end);
-            total += cost[from];
-            heardRows += end - from;
-            int row = from;
-            while (row < end && pieces < MOST_ROWS) {
-                int behind = row + Math.max(1, most[row]);
-                addPiece(book, gathering, row, Math.min(behind, end));
-                row = behind;
-            }
-            stretches++;
         }
 
         private void findCosts(RowBook book, Gathering gathering, int price, int from, int end) {
@@ -792,18 +779,23 @@ public final class VoiceHeaps {
             }
         }
 
-        private void addPiece(RowBook book, Gathering gathering, int from, int end) {
-            gathering.empty();
-            for (int r = from; r < end; r++) {
-                gathering.take(book, r);
-                pieceOf[r] = pieces;
+        private void addPieces(RowBook book, Gathering gathering, int from, int end) {
+            int row = from;
+            while (row < end && pieces < MOST_ROWS) {
+                int behind = Math.min(end, row + Math.max(1, most[row]));
+                gathering.empty();
+                for (int r = row; r < behind; r++) {
+                    gathering.take(book, r);
+                    pieceOf[r] = pieces;
+                }
+                first[pieces] = row;
+                size[pieces] = behind - row;
+                spread[pieces] = gathering.spread;
+                stretchOf[pieces] = stretches;
+                gathering.writeMiddle(middles, pieces * NUMBERS);
+                pieces++;
+                row = behind;
             }
-            first[pieces] = from;
-            size[pieces] = end - from;
-            spread[pieces] = gathering.spread;
-            stretchOf[pieces] = stretches;
-            gathering.writeMiddle(middles, pieces * NUMBERS);
-            pieces++;
         }
 
         int middleOf(int p, int i) {
