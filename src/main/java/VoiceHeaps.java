@@ -11,6 +11,8 @@ public final class VoiceHeaps {
     // Beyond 9 PIECES the document refuses what needs HEAPS: all heapings of 9 are some 21000.
     private static final int MOST_HEAPED = 9;
     private static final int NOTHING_SHOWN = -1;
+    // Above all costs, OFFS and WORTHS.
+    private static final int BEYOND = 1000000000;
 
     private final RuleText ruleText;
     private final RowBook book;
@@ -623,9 +625,6 @@ public final class VoiceHeaps {
             isDeaf[row] = true;
             isOut[row] = false;
             truthOf[row] = 0;
-            for (int i = 0; i < NUMBERS; i++) {
-                numbers[row * NUMBERS + i] = 0;
-            }
             rows++;
             return row;
         }
@@ -766,7 +765,7 @@ public final class VoiceHeaps {
             cost[end] = 0;
             for (int row = end - 1; row >= from; row--) {
                 gathering.empty();
-                cost[row] = Integer.MAX_VALUE;
+                cost[row] = BEYOND;
                 for (int last = row; last < end; last++) {
                     gathering.take(book, last);
                     int with = gathering.spread + price + cost[last + 1];
@@ -958,10 +957,10 @@ public final class VoiceHeaps {
             }
             int own = heapOf[p];
             int found = NONE;
-            int least = Integer.MAX_VALUE;
+            int least = BEYOND;
             for (int a = 0; a < heaps; a++) {
                 for (int b = a + 1; b < heaps; b++) {
-                    int far = a == own || b == own ? Integer.MAX_VALUE : offOfTwo(cutting, p, a, b);
+                    int far = a == own || b == own ? BEYOND : offOfTwo(cutting, p, a, b);
                     if (far < least) {
                         least = far;
                         found = a * MOST_HEAPED + b;
@@ -998,7 +997,7 @@ public final class VoiceHeaps {
 
         void findBest(Bonds bonds) {
             isForNear = false;
-            best.value = Integer.MIN_VALUE;
+            best.value = -BEYOND;
             Arrays.fill(members, 0);
             deal(this, bonds, 0, 0, 0, 0L);
         }

@@ -165,6 +165,13 @@ public final class HeapsTest {
         Check.due("16: all five", x.near(0), 5);
         Check.due("16: from one", x.near(1), 1);
         Check.due("16: to three", x.near(2), 3);
+        Check.type(x, "like 10; near 4;");
+        x.rules();
+        Check.due("16: fewer again", x.near(0), 1);
+        Check.due("16: no more than two", x.near(2), 2);
+        Check.due("16: nor fewer", x.near(1), 2);
+        Check.due("17: sure again", x.sure(0, 2), 0);
+        Check.due("17: sure again, together", x.sure(0, 1), 1);
     }
 
     private static void middles() {

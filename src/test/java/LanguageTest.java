@@ -14,6 +14,8 @@ public final class LanguageTest {
         "\\b\\w+Exact\\b", "\\b(hashCode|toString)\\b", "\\bnew\\s+\\w+\\s*\\([^)]*\\)\\s*\\{", "\\bstatic\\s*\\{",
         "\\b(double|float)\\b", "\\[\\]\\[\\]\\[\\]",
     };
+    private static final List<String> LIBRARY =
+            List.of("Math.abs", "Math.min", "Math.max", "Integer.bitCount", "Arrays.fill");
     private static final int LONGEST_METHOD = 60;
 
     public static void main(String[] args) throws IOException {
@@ -27,6 +29,10 @@ public final class LanguageTest {
         Matcher imports = Pattern.compile("import\\s+([\\w.]+);").matcher(code);
         while (imports.find()) {
             Check.holds("import of " + imports.group(1), imports.group(1).equals("java.util.Arrays"));
+        }
+        Matcher library = Pattern.compile("\\b(Math|Integer|Long|Arrays|System|String|List)\\.(\\w+)").matcher(code);
+        while (library.find()) {
+            Check.holds(library.group() + " is in the library", LIBRARY.contains(library.group()));
         }
         // Static fields are final.
         Matcher statics = Pattern.compile("(?m)^\\s*(private |public )?static (?!final)[^(\\n]*[;=]").matcher(code);

@@ -116,6 +116,10 @@ public final class RowsTest {
         Check.due("9: no word", x.hung(0, 0), VoiceHeaps.BAD);
         x.row(50, 0, 0, 0);
         Check.due("9: a new row is not out", x.of(0), 0);
+        x.row(50, 0, 0, 0);
+        Check.due("9: nor is another", x.of(1), 0);
+        x.deaf(1);
+        Check.due("9: nor is a deaf one", x.count(2), 0);
         Check.due("9: nor of somebody", x.truth(0, 0, 0), 0);
         Check.due("9: the voice comes back", x.back(0, 0), 44);
         Check.due("9: a new word is the first", x.word(0, 0), 0);

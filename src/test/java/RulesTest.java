@@ -122,11 +122,19 @@ public final class RulesTest {
         Check.due("4: no such word", Check.rulesOf("prices 5;"), -10);
         Check.due("4: half a word", Check.rulesOf("price 5; hus"), -19);
         Check.due("4: great letters", Check.rulesOf("PRICE 5;"), -10);
-        Check.due("4: a great letter behind", Check.rulesOf("priceX 5;"), -10);
+        for (char letter : new char[] {'a', 'z', 'A', 'Z'}) {
+            Check.due("4: a letter behind: " + letter, Check.rulesOf("price" + letter + " 5;"), -10);
+            Check.due("4: a letter ahead: " + letter, Check.rulesOf(letter + "rice 5;"), -10);
+        }
+        for (char sign : new char[] {'`', '{', '@', '[', '/', ':', '\0', '\u007f', '\u00ff'}) {
+            Check.due("4: a sign behind a word: " + (int) sign, Check.rulesOf("price" + sign + " 5;"), -15);
+            Check.due("4: a sign behind a number: " + (int) sign, Check.rulesOf("price 5" + sign + ";"), -17);
+        }
         Check.due("4: a byte that begins none", Check.rulesOf("price 5; #"), -19);
         Check.due("4: a byte within a word", Check.rulesOf("pri#ce 5;"), -10);
         Check.due("4: a byte behind a word", Check.rulesOf("price# 5;"), -15);
         Check.due("4: a byte of 233", Check.rulesOf("price \u00e9"), -16);
+        Check.due("4: 9 and 0", Check.rulesOf("near 9090;"), 1);
         Check.due("4: below 0", Check.rulesOf("price -5;"), -16);
         Check.due("4: a 0 ahead", Check.rulesOf("price 05;"), -16);
         Check.due("4: 00", Check.rulesOf("price 00;"), -16);
@@ -150,5 +158,11 @@ public final class RulesTest {
         Check.due("4: hush stays", x.rule(1), 10);
         Check.due("4: turn stays", x.rule(4), 6);
         Check.due("4: refused again", x.rules(), -27);
+        // An empty text is RULES, too, and holds at once.
+        VoiceHeaps y = Check.ruled("hush 0;");
+        y.row(0, 0, 0, 0);
+        Check.due("4: without hush", y.pieces(0), 1);
+        Check.due("4: no items", y.rules(), 0);
+        Check.due("4: hush is as at first, and holds", y.pieces(0), 0);
     }
 }

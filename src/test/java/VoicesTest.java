@@ -149,6 +149,11 @@ public final class VoicesTest {
         Check.due("25: by other rules", x.otherwise(), 3);
         x.hush();
         Check.due("25: nothing is shown", x.otherwise(), VoiceHeaps.STATE);
+        VoiceHeaps y = voices(20, 60, 22);
+        y.out(0, 0, 1);
+        y.show();
+        y.out(0, 0, 0);
+        Check.due("25: the first row was none then", y.otherwise(), 3);
         VoiceHeaps none = new VoiceHeaps();
         Check.due("24: no rows", none.show(), 0);
         Check.due("25: no rows", none.otherwise(), 0);

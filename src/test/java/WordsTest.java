@@ -105,6 +105,9 @@ public final class WordsTest {
         for (int what : new int[] {-1, 3, Integer.MIN_VALUE, Integer.MAX_VALUE}) {
             Check.due("29: what = " + what, x.errors(what), VoiceHeaps.BAD);
         }
+        x.truth(0, 0, 1);
+        x.out(0, 0, 1);
+        Check.due("29: the first row", x.errors(0), 3);
         VoiceHeaps many = new VoiceHeaps();
         for (int r = 0; r < 10; r++) {
             many.row(20, 0, 0, 0);
